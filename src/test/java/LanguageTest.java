@@ -1,0 +1,163 @@
+import java.io.IOException;
+import java.lang.management.ManagementFactory;
+import java.lang.reflect.Constructor;
+import java.lang.reflect.Field;
+import java.lang.reflect.Method;
+import java.lang.reflect.Modifier;
+import java.nio.file.Files;
+import java.nio.file.Path;
+import java.util.ArrayList;
+import java.util.HashSet;
+import java.util.List;
+import java.util.Set;
+import java.util.TreeSet;
+import java.util.regex.Matcher;
+import java.util.regex.Pattern;
+
+/** What can be seen of LANGUAGE.md from outside: the face, forbidden words, sizes, and that no call makes objects. */
+public final class LanguageTest {
+    private static final Path SOURCE = Path.of("src/main/java/DeafArray.java");
+    private static final String FACE = "feed array end fault count element hears wish rank solved weight gain power total"
+        + " louder loud hush beam share room likeness nearest quiet side bounded twins sets without spares frail fewest"
+        + " leak weakest cut cutGain cutPower error farthest within coarsest step exactly polish looks easiest deafer"
+        + " sealed placed better both tell octet breaks mends moves look deaf hear steps";
+
+    private static int wrong;
+
+    private static void check(boolean holds, String what) {
+        if (!holds) {
+            wrong++;
+            System.out.println(what);
+        }
+    }
+
+    public static void main(String[] args) throws IOException {
+        checkFace();
+        checkInside();
+        checkWords(withoutTexts(Files.readString(SOURCE)));
+        checkMethods(withoutTexts(Files.readString(SOURCE)));
+        checkRoom();
+        System.out.println(wrong == 0 ? "the language's rules hold" : wrong + " faults");
+        if (wrong != 0) {
+            System.exit(1);
+        }
+    }
+
+    private static void checkFace() {
+        check(Modifier.isFinal(DeafArray.class.getModifiers()), "1: the class is not final");
+        Set<String> seen = new TreeSet<>();
+        for (Method method : DeafArray.class.getDeclaredMethods()) {
+            if (Modifier.isPublic(method.getModifiers())) {
+                seen.add(method.getName());
+                check(method.getReturnType() == int.class || method.getReturnType() == long.class, "1: " + method);
+            } else {
+                check(Modifier.isPrivate(method.getModifiers()), "1: " + method);
+            }
+        }
+        check(seen.equals(new TreeSet<>(List.of(FACE.split(" ")))), "1: the face is " + seen);
+        for (Field field : DeafArray.class.getDeclaredFields()) {
+            boolean told = field.getName().equals("NONE") || field.getName().equals("NO_SUCH");
+            check(told ? Modifier.isPublic(field.getModifiers()) : Modifier.isPrivate(field.getModifiers()), "1: " + field);
+        }
+        Constructor<?>[] constructors = DeafArray.class.getDeclaredConstructors();
+        check(constructors.length == 1 && constructors[0].getParameterCount() == 0, "1: constructors");
+        check(DeafArray.NONE == -1 && DeafArray.NO_SUCH == Long.MIN_VALUE, "1: constants");
+    }
+
+    private static void checkInside() {
+        Set<String> face = new HashSet<>(List.of(FACE.split(" ")));
+        Class<?>[] inside = DeafArray.class.getDeclaredClasses();
+        check(inside.length < 12, "11: classes");
+        List<Class<?>> all = new ArrayList<>(List.of(inside));
+        all.add(DeafArray.class);
+        for (Class<?> one : all) {
+            check(one == DeafArray.class || Modifier.isStatic(one.getModifiers()), "2: " + one);
+            int fields = 0;
+            for (Field field : one.getDeclaredFields()) {
+                boolean constant = Modifier.isStatic(field.getModifiers());
+                fields += constant ? 0 : 1;
+                check(!constant || Modifier.isFinal(field.getModifiers()), "5: " + field);
+            }
+            check(fields <= 20, "11: fields of " + one);
+            for (Method method : one.getDeclaredMethods()) {
+                check(one == DeafArray.class || !face.contains(method.getName()), "1: " + method);
+                check(method.getParameterCount() <= 7, "11: " + method);
+            }
+        }
+    }
+
+    /** Comments and texts become blanks, so that their words do not count; lines stay. */
+    private static String withoutTexts(String source) {
+        Matcher matcher = Pattern.compile("/\\*.*?\\*/|//[^\n]*|\"[^\"\n]*\"|'(\\\\.|[^'])'", Pattern.DOTALL).matcher(source);
+        return matcher.replaceAll(found -> found.group().replaceAll("[^\n]", " "));
+    }
+
+    private static void checkWords(String source) {
+        for (String word : "throw try catch synchronized assert import throws instanceof System Thread Random static\\s*\\{"
+            .split(" ")) {
+            check(!Pattern.compile("\\b" + word + "\\b").matcher(source).find(), "4, 6, 13: " + word);
+        }
+        check(!source.contains("->") && !source.contains("::"), "2: a lambda or a method reference");
+        check(!Pattern.compile("\\w+Exact\\b").matcher(source).find(), "4: a function of Exact");
+        Matcher library = Pattern.compile("\\b(Math|Integer|Long|String|Arrays)\\.(\\w+)").matcher(source);
+        Set<String> fine = Set.of("Math.abs", "Math.max", "Math.min", "Math.floorDiv", "Integer.bitCount",
+            "Long.MIN_VALUE");
+        while (library.find()) {
+            check(fine.contains(library.group()), "4: " + library.group());
+        }
+    }
+
+    private static void checkMethods(String source) {
+        String[] lines = source.split("\n", -1);
+        int start = -1;
+        String end = "";
+        for (int i = 0; i < lines.length; i++) {
+            if (start < 0 && lines[i].matches("\\s+[\\w\\[\\] ]+\\(.*\\) \\{") && !lines[i].matches("\\s+(if|for|while|switch).*")) {
+                start = i;
+                end = lines[i].replaceAll("\\S.*", "") + "}";
+            } else if (start >= 0 && lines[i].equals(end)) {
+                check(i - start < 60, "11: a method of " + (i - start + 1) + " lines at " + (start + 1));
+                start = -1;
+            }
+            check(lines[i].length() <= 120, "a long line, " + (i + 1));
+        }
+    }
+
+    /** Five hundred of the dearest calls make nothing. */
+    private static void checkRoom() {
+        com.sun.management.ThreadMXBean bean = (com.sun.management.ThreadMXBean) ManagementFactory.getThreadMXBean();
+        long thread = Thread.currentThread().getId();
+        DeafArray x = new DeafArray();
+        useAll(x);
+        long before = bean.getThreadAllocatedBytes(thread);
+        for (int i = 0; i < 20; i++) {
+            useAll(x);
+        }
+        long made = bean.getThreadAllocatedBytes(thread) - before;
+        check(made < 20_000, "12: calls made " + made + " bytes of objects");
+    }
+
+    private static void useAll(DeafArray x) {
+        // array steps 9;element 0;element 1;element 3;look 2;deaf 4;
+        x.feed(0x61727261, 0x79207374, 0x65707320, 0x393b656c, 0x656d656e);
+        x.feed(0x7420303b, 0x656c656d, 0x656e7420, 0x313b656c, 0x656d656e);
+        x.feed(0x7420333b, 0x6c6f6f6b, 0x20323b64, 0x65616620, 0x343b2020);
+        check(x.array() == 6, "the text of checkRoom");
+        x.placed(5, 1);
+        x.sealed(1, 9, 1);
+        x.coarsest(0, 1);
+        x.polish(20, 1);
+        x.frail(1);
+        x.fewest(1);
+        x.looks();
+        x.easiest();
+        x.deafer();
+        x.better(1);
+        x.both(5, 3, 4, 2, 1);
+        x.tell(0);
+        x.loud(11);
+        x.breaks(0);
+        x.mends(0);
+        x.error(3, 0);
+    }
+}
