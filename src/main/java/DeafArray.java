@@ -32,7 +32,8 @@ public final class DeafArray {
     private final Solver now;
     private final Solver trial;
     private final Cutter cutter;
-    private final Best best;
+    private final Least least;
+    private final Greatest greatest;
     private final Out out;
     private final Num probe;
     private final long[] parts;
@@ -44,7 +45,8 @@ public final class DeafArray {
         now = new Solver();
         trial = new Solver();
         cutter = new Cutter();
-        best = new Best();
+        least = new Least();
+        greatest = new Greatest();
         out = new Out();
         probe = new Num();
         parts = new long[PARTS + 1];
@@ -124,7 +126,7 @@ public final class DeafArray {
 
     /** Promise 7. */
     public int element(int element, int what) {
-        if (!now.plan.has(element) || what < 0 || what > 1) {
+        if (!now.plan.has(element) || !isAmong(what, 2)) {
             return NOT_THERE;
         }
         if (what == 0) {
@@ -144,7 +146,7 @@ public final class DeafArray {
     /** Promise 9. */
     public int wish(int i, int what) {
         refresh();
-        if (i < 0 || i >= now.wishes || what < 0 || what > 1) {
+        if (!isAmong(i, now.wishes) || !isAmong(what, 2)) {
             return NOT_THERE;
         }
         if (what == 0) {
@@ -229,7 +231,7 @@ public final class DeafArray {
     /** Promise 18. */
     public int hush(int above, int below, int what) {
         refresh();
-        if (!now.holds || !isFraction(above, below) || what < 0 || what > 1) {
+        if (!now.holds || !isFraction(above, below) || !isAmong(what, 2)) {
             return NOT_THERE;
         }
         int hushed = 0;
@@ -271,7 +273,7 @@ public final class DeafArray {
     /** Promise 20. */
     public long share(int i, int what) {
         refresh();
-        if (!now.holds || i < 0 || i >= now.wishes) {
+        if (!now.holds || !isAmong(i, now.wishes)) {
             return NO_SUCH;
         }
         return partOf(now.shares[i], now.lower, what);
@@ -288,7 +290,7 @@ public final class DeafArray {
 
     /** Promise 22. */
     public int likeness(int direction, int other, int what) {
-        if (!isDirection(direction) || !isDirection(other) || what < 0 || what > 1) {
+        if (!isDirection(direction) || !isDirection(other) || !isAmong(what, 2)) {
             return NO_LIKENESS;
         }
         now.plan.meet(direction, other, probe);
@@ -301,22 +303,14 @@ public final class DeafArray {
             return NOT_THERE;
         }
         int twins = now.plan.twinBits(direction);
-        int found = NONE;
-        long foundX = 0;
-        long foundY = 0;
+        greatest.clear();
         for (int other = 0; other < DIRECTIONS; other++) {
             if ((twins >> other & 1) == 0) {
                 now.plan.meet(direction, other, probe);
-                long x = probe.powerX();
-                long y = probe.powerY();
-                if (found == NONE || signOf(x - foundX, y - foundY) > 0) {
-                    found = other;
-                    foundX = x;
-                    foundY = y;
-                }
+                greatest.offer(probe, other);
             }
         }
-        return found;
+        return greatest.found;
     }
 
     /** Promise 24. */
@@ -341,13 +335,13 @@ public final class DeafArray {
             return NOT_THERE;
         }
         int aside = now.plan.asideBits();
-        int found = NONE;
+        greatest.clear();
         for (int direction = 0; direction < DIRECTIONS; direction++) {
-            if ((aside >> direction & 1) != 0 && (found == NONE || now.comparePowers(direction, found) > 0)) {
-                found = direction;
+            if ((aside >> direction & 1) != 0) {
+                greatest.offer(now.gains[direction], direction);
             }
         }
-        return found;
+        return greatest.found;
     }
 
     /** Promise 26. */
@@ -380,7 +374,7 @@ public final class DeafArray {
 
     /** Promise 29. */
     public int without(int element, int what) {
-        if (!now.plan.has(element) || what < 0 || what > 1) {
+        if (!now.plan.has(element) || !isAmong(what, 2)) {
             return NOT_THERE;
         }
         boolean holds = holdsBroken(now.plan.broken | 1 << element);
@@ -403,7 +397,7 @@ public final class DeafArray {
 
     /** Promise 31. */
     public int frail(int what) {
-        if (what < 0 || what > 1) {
+        if (!isAmong(what, 2)) {
             return NOT_THERE;
         }
         int set = leastSet(false);
@@ -412,7 +406,7 @@ public final class DeafArray {
 
     /** Promise 32. */
     public int fewest(int what) {
-        if (what < 0 || what > 1) {
+        if (!isAmong(what, 2)) {
             return NOT_THERE;
         }
         int set = leastSet(true);
@@ -441,19 +435,11 @@ public final class DeafArray {
             return NONE;
         }
         // a DEAF one's GAIN is 0, so without an ELEMENT it has the POWER of that ELEMENT's WEIGHT
-        int found = NONE;
-        long foundX = 0;
-        long foundY = 0;
+        greatest.clear();
         for (int element = 0; element < now.plan.size; element++) {
-            long x = now.weights[element].powerX();
-            long y = now.weights[element].powerY();
-            if (found == NONE || signOf(x - foundX, y - foundY) > 0) {
-                found = element;
-                foundX = x;
-                foundY = y;
-            }
+            greatest.offer(now.weights[element], element);
         }
-        return found;
+        return greatest.found;
     }
 
     // ---- weights that are CUT: promises 35 to 44 ----
@@ -461,7 +447,7 @@ public final class DeafArray {
     /** Promise 35. */
     public long cut(int element, int what) {
         refresh();
-        if (!now.holds || !now.plan.has(element) || !isPart(what)) {
+        if (!now.holds || !now.plan.has(element) || !isAmong(what, PARTS)) {
             return NO_SUCH;
         }
         cutter.roundAll(now, now.plan.steps);
@@ -471,7 +457,7 @@ public final class DeafArray {
     /** Promise 36. */
     public long cutGain(int direction, int what) {
         refresh();
-        if (!now.holds || !isDirection(direction) || !isPart(what)) {
+        if (!now.holds || !isDirection(direction) || !isAmong(what, PARTS)) {
             return NO_SUCH;
         }
         cutter.roundAll(now, now.plan.steps);
@@ -482,7 +468,7 @@ public final class DeafArray {
     /** Promise 37. */
     public long cutPower(int direction, int what) {
         refresh();
-        if (!now.holds || !isDirection(direction) || what < 0 || what > 1) {
+        if (!now.holds || !isDirection(direction) || !isAmong(what, 2)) {
             return NO_SUCH;
         }
         cutter.roundAll(now, now.plan.steps);
@@ -509,20 +495,12 @@ public final class DeafArray {
             return NOT_THERE;
         }
         cutter.roundAll(now, now.plan.steps);
-        int found = NONE;
-        long foundX = 0;
-        long foundY = 0;
+        greatest.clear();
         for (int direction = 0; direction < DIRECTIONS; direction++) {
             cutter.missAt(now, direction, probe);
-            long x = probe.powerX();
-            long y = probe.powerY();
-            if (found == NONE || signOf(x - foundX, y - foundY) > 0) {
-                found = direction;
-                foundX = x;
-                foundY = y;
-            }
+            greatest.offer(probe, direction);
         }
-        return found;
+        return greatest.found;
     }
 
     /** Promise 40. */
@@ -556,7 +534,7 @@ public final class DeafArray {
     /** Promise 42. */
     public int step(int what) {
         refresh();
-        if (!now.holds || what < 0 || what > 2) {
+        if (!now.holds || !isAmong(what, 3)) {
             return NOT_THERE;
         }
         cutter.roundAll(now, now.plan.steps);
@@ -587,7 +565,7 @@ public final class DeafArray {
     /** Promise 44. */
     public long polish(int n, int what) {
         refresh();
-        if (!now.holds || n < 1 || n > MOST_POLISH || what < 0 || what > 2) {
+        if (!now.holds || n < 1 || n > MOST_POLISH || !isAmong(what, 3)) {
             return NO_SUCH;
         }
         cutter.roundAll(now, now.plan.steps);
@@ -618,13 +596,13 @@ public final class DeafArray {
 
     /** Promise 46. */
     public int easiest() {
-        best.clear();
+        least.clear();
         for (int direction = 0; direction < DIRECTIONS; direction++) {
             if (holdsLooking(direction)) {
-                best.offer(trial, direction);
+                least.offer(trial, direction);
             }
         }
-        return best.found;
+        return least.found;
     }
 
     /** Promise 47. */
@@ -633,23 +611,23 @@ public final class DeafArray {
         if (!now.holds) {
             return NOT_THERE;
         }
-        best.clear();
+        least.clear();
         if (now.plan.deafCount == MOST_DEAF) {
             return NONE;
         }
         int wishes = now.plan.wishBits();
         for (int direction = 0; direction < DIRECTIONS; direction++) {
             if ((wishes >> direction & 1) == 0 && holdsDeafTo(1 << direction)) {
-                best.offer(trial, direction);
+                least.offer(trial, direction);
             }
         }
-        return best.found;
+        return least.found;
     }
 
     /** Promise 48. */
     public int sealed(int above, int below, int what) {
         refresh();
-        if (!now.holds || !isFraction(above, below) || what < 0 || what > 1) {
+        if (!now.holds || !isFraction(above, below) || !isAmong(what, 2)) {
             return NOT_THERE;
         }
         int set = leastSeal(above, below);
@@ -658,11 +636,11 @@ public final class DeafArray {
 
     /** Promise 49. */
     public int placed(int n, int what) {
-        if (n < 1 || n > MOST_ELEMENTS || what < 0 || what > 1) {
+        if (n < 1 || n > MOST_ELEMENTS || !isAmong(what, 2)) {
             return NOT_THERE;
         }
         int found = 0;
-        best.clear();
+        least.clear();
         trial.plan.copy(now.plan);
         for (int set = 0; set <= ALL_POSITIONS; set++) {
             // ELEMENTS that all move by the same hear each DIRECTION by one further root: TOTAL stays, so the least of
@@ -673,11 +651,11 @@ public final class DeafArray {
                 trial.solve();
                 if (trial.holds) {
                     found += alike;
-                    best.offer(trial, set);
+                    least.offer(trial, set);
                 }
             }
         }
-        return what == 0 ? found : best.found;
+        return what == 0 ? found : least.found;
     }
 
     /** Promise 50. */
@@ -685,7 +663,7 @@ public final class DeafArray {
         if (!now.plan.has(element) || !now.plan.works(element)) {
             return NOT_THERE;
         }
-        best.clear();
+        least.clear();
         trial.plan.copy(now.plan);
         for (int position = 0; position < POSITIONS; position++) {
             int there = now.plan.elementAt(position);
@@ -693,11 +671,11 @@ public final class DeafArray {
                 trial.plan.positions[element] = position;
                 trial.solve();
                 if (trial.holds) {
-                    best.offer(trial, position);
+                    least.offer(trial, position);
                 }
             }
         }
-        return best.found;
+        return least.found;
     }
 
     /** Promise 51. */
@@ -730,7 +708,7 @@ public final class DeafArray {
 
     /** Promise 53. */
     public int octet(int i) {
-        return i >= 0 && i < out.size ? out.bytes[i] : NONE;
+        return isAmong(i, out.size) ? out.bytes[i] : NONE;
     }
 
     // ---- changes: promises 54 to 60 ----
@@ -763,7 +741,7 @@ public final class DeafArray {
 
     /** Promise 56. */
     public int moves(int element, int position) {
-        if (!now.plan.has(element) || position < 0 || position >= POSITIONS) {
+        if (!now.plan.has(element) || !isAmong(position, POSITIONS)) {
             return NOT_THERE;
         }
         if (now.plan.elementAt(position) != NONE) {
@@ -893,7 +871,7 @@ public final class DeafArray {
     }
 
     private long partOf(Num top, long lower, int what) {
-        if (what < 0 || what > PARTS) {
+        if (!isAmong(what, PARTS + 1)) {
             return NO_SUCH;
         }
         bringToLowest(top, lower);
@@ -914,7 +892,7 @@ public final class DeafArray {
 
     private static long realPart(long x, long y, long lower, int what) {
         long common = commonDivisor(commonDivisor(lower, x), y);
-        if (common == 0 || what < 0 || what > 2) {
+        if (common == 0 || !isAmong(what, 3)) {
             return NO_SUCH;
         }
         if (what == 0) {
@@ -924,11 +902,12 @@ public final class DeafArray {
     }
 
     private static boolean isDirection(int direction) {
-        return direction >= 0 && direction < DIRECTIONS;
+        return isAmong(direction, DIRECTIONS);
     }
 
-    private static boolean isPart(int what) {
-        return what >= 0 && what < PARTS;
+    /** From 0 on there are so many. */
+    private static boolean isAmong(int i, int count) {
+        return i >= 0 && i < count;
     }
 
     private static boolean isFraction(int above, int below) {
@@ -1258,7 +1237,7 @@ public final class DeafArray {
         }
 
         boolean has(int element) {
-            return element >= 0 && element < size;
+            return isAmong(element, size);
         }
 
         boolean works(int element) {
@@ -1940,7 +1919,7 @@ public final class DeafArray {
     }
 
     /** Which of what is offered has the least TOTAL; of like ones the one that came first. */
-    private static final class Best {
+    private static final class Least {
         private int found;
         private long x;
         private long y;
@@ -1957,6 +1936,27 @@ public final class DeafArray {
                 x = solver.totalX();
                 y = solver.totalY();
                 lower = solver.lower;
+            }
+        }
+    }
+
+    /** Which of NUMBERS that are offered has the greatest POWER; of like ones the one that came first. */
+    private static final class Greatest {
+        private int found;
+        private long x;
+        private long y;
+
+        void clear() {
+            found = NONE;
+        }
+
+        void offer(Num number, int candidate) {
+            long otherX = number.powerX();
+            long otherY = number.powerY();
+            if (found == NONE || signOf(otherX - x, otherY - y) > 0) {
+                found = candidate;
+                x = otherX;
+                y = otherY;
             }
         }
     }

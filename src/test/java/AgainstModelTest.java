@@ -7,7 +7,7 @@ import java.util.Random;
 
 /**
  * Runs of calls, drawn by a fixed seed, on DeafArray and on ModelArray: each answer must be the same.
- * Arguments: how many runs (100), the seed (1).
+ * Arguments: how many runs (400), the seed (1).
  */
 public final class AgainstModelTest {
     private static final String[] LEGAL = {"element ", "broken ", "look ", "deaf ", "element ", "deaf "};
@@ -32,7 +32,7 @@ public final class AgainstModelTest {
     }
 
     public static void main(String[] args) throws ReflectiveOperationException {
-        int runs = args.length > 0 ? Integer.parseInt(args[0]) : 100;
+        int runs = args.length > 0 ? Integer.parseInt(args[0]) : 400;
         AgainstModelTest test = new AgainstModelTest(args.length > 1 ? Long.parseLong(args[1]) : 1);
         if (test.methods.size() != 60 - 1) {
             throw new IllegalStateException("promises 2 to 60 have a method each");

@@ -2,13 +2,16 @@ import java.io.IOException;
 import java.lang.management.ManagementFactory;
 import java.lang.reflect.Constructor;
 import java.lang.reflect.Field;
+import java.lang.reflect.InvocationTargetException;
 import java.lang.reflect.Method;
 import java.lang.reflect.Modifier;
 import java.nio.file.Files;
 import java.nio.file.Path;
 import java.util.ArrayList;
+import java.util.Arrays;
 import java.util.HashSet;
 import java.util.List;
+import java.util.Random;
 import java.util.Set;
 import java.util.TreeSet;
 import java.util.regex.Matcher;
@@ -17,10 +20,10 @@ import java.util.regex.Pattern;
 /** What can be seen of LANGUAGE.md from outside: the face, forbidden words, sizes, and that no call makes objects. */
 public final class LanguageTest {
     private static final Path SOURCE = Path.of("src/main/java/DeafArray.java");
-    private static final String FACE = "feed array end fault count element hears wish rank solved weight gain power total"
-        + " louder loud hush beam share room likeness nearest quiet side bounded twins sets without spares frail fewest"
-        + " leak weakest cut cutGain cutPower error farthest within coarsest step exactly polish looks easiest deafer"
-        + " sealed placed better both tell octet breaks mends moves look deaf hear steps";
+    private static final String FACE = "feed array end fault count element hears wish rank solved weight gain power"
+        + " total louder loud hush beam share room likeness nearest quiet side bounded twins sets without spares frail"
+        + " fewest leak weakest cut cutGain cutPower error farthest within coarsest step exactly polish looks easiest"
+        + " deafer sealed placed better both tell octet breaks mends moves look deaf hear steps";
 
     private static int wrong;
 
@@ -31,8 +34,9 @@ public final class LanguageTest {
         }
     }
 
-    public static void main(String[] args) throws IOException {
+    public static void main(String[] args) throws IOException, IllegalAccessException {
         checkFace();
+        checkNothingThrown();
         checkInside();
         checkWords(withoutTexts(Files.readString(SOURCE)));
         checkMethods(withoutTexts(Files.readString(SOURCE)));
@@ -57,7 +61,8 @@ public final class LanguageTest {
         check(seen.equals(new TreeSet<>(List.of(FACE.split(" ")))), "1: the face is " + seen);
         for (Field field : DeafArray.class.getDeclaredFields()) {
             boolean told = field.getName().equals("NONE") || field.getName().equals("NO_SUCH");
-            check(told ? Modifier.isPublic(field.getModifiers()) : Modifier.isPrivate(field.getModifiers()), "1: " + field);
+            int modifiers = field.getModifiers();
+            check(told ? Modifier.isPublic(modifiers) : Modifier.isPrivate(modifiers), "1: " + field);
         }
         Constructor<?>[] constructors = DeafArray.class.getDeclaredConstructors();
         check(constructors.length == 1 && constructors[0].getParameterCount() == 0, "1: constructors");
@@ -88,13 +93,13 @@ public final class LanguageTest {
 
     /** Comments and texts become blanks, so that their words do not count; lines stay. */
     private static String withoutTexts(String source) {
-        Matcher matcher = Pattern.compile("/\\*.*?\\*/|//[^\n]*|\"[^\"\n]*\"|'(\\\\.|[^'])'", Pattern.DOTALL).matcher(source);
-        return matcher.replaceAll(found -> found.group().replaceAll("[^\n]", " "));
+        Pattern texts = Pattern.compile("/\\*.*?\\*/|//[^\n]*|\"[^\"\n]*\"|'(\\\\.|[^'])'", Pattern.DOTALL);
+        return texts.matcher(source).replaceAll(found -> found.group().replaceAll("[^\n]", " "));
     }
 
     private static void checkWords(String source) {
-        for (String word : "throw try catch synchronized assert import throws instanceof System Thread Random static\\s*\\{"
-            .split(" ")) {
+        String words = "throw try catch synchronized assert import throws instanceof System Thread Random";
+        for (String word : words.split(" ")) {
             check(!Pattern.compile("\\b" + word + "\\b").matcher(source).find(), "4, 6, 13: " + word);
         }
         check(!source.contains("->") && !source.contains("::"), "2: a lambda or a method reference");
@@ -112,7 +117,8 @@ public final class LanguageTest {
         int start = -1;
         String end = "";
         for (int i = 0; i < lines.length; i++) {
-            if (start < 0 && lines[i].matches("\\s+[\\w\\[\\] ]+\\(.*\\) \\{") && !lines[i].matches("\\s+(if|for|while|switch).*")) {
+            boolean opens = lines[i].matches("\\s+[\\w\\[\\] ]+\\(.*\\) \\{");
+            if (start < 0 && opens && !lines[i].matches("\\s+(if|for|while|switch).*")) {
                 start = i;
                 end = lines[i].replaceAll("\\S.*", "") + "}";
             } else if (start >= 0 && lines[i].equals(end)) {
@@ -123,7 +129,31 @@ public final class LanguageTest {
         }
     }
 
-    /** Five hundred of the dearest calls make nothing. */
+    /** Arguments at all bounds and far beyond, in states that earlier calls left, bytes of any kind among them. */
+    private static void checkNothingThrown() throws IllegalAccessException {
+        int[] odd = {Integer.MIN_VALUE, Integer.MAX_VALUE, -100, -10, -9, -2, -1, 0, 1, 2, 3, 4, 5, 6, 9, 11, 12, 20,
+            21, 99, 100, 300, 301, 1 << 16, 0x3b3b3b3b, 0x6c6f6f6b, 0x61727261};
+        Random random = new Random(7);
+        for (Method method : DeafArray.class.getDeclaredMethods()) {
+            DeafArray x = new DeafArray();
+            for (int i = 0; i < 300 && Modifier.isPublic(method.getModifiers()); i++) {
+                if (i % 100 == 50) {
+                    useAll(x);
+                }
+                Object[] arguments = new Object[method.getParameterCount()];
+                for (int j = 0; j < arguments.length; j++) {
+                    arguments[j] = odd[random.nextInt(odd.length)];
+                }
+                try {
+                    method.invoke(x, arguments);
+                } catch (InvocationTargetException thrown) {
+                    check(false, "7: " + method.getName() + Arrays.toString(arguments) + " " + thrown.getCause());
+                }
+            }
+        }
+    }
+
+    /** Hundreds of the dearest calls make nothing. */
     private static void checkRoom() {
         com.sun.management.ThreadMXBean bean = (com.sun.management.ThreadMXBean) ManagementFactory.getThreadMXBean();
         long thread = Thread.currentThread().getId();
@@ -138,6 +168,7 @@ public final class LanguageTest {
     }
 
     private static void useAll(DeafArray x) {
+        x.end(0);
         // array steps 9;element 0;element 1;element 3;look 2;deaf 4;
         x.feed(0x61727261, 0x79207374, 0x65707320, 0x393b656c, 0x656d656e);
         x.feed(0x7420303b, 0x656c656d, 0x656e7420, 0x313b656c, 0x656d656e);

@@ -2,6 +2,7 @@ import java.math.BigInteger;
 
 /** A NUMBER (a + b z + c z z + d z z z) / lower in lowest terms, without bounds: slow, plain, never changed. */
 final class ModelNumber {
+    private static final ModelNumber[] ROOTS = roots();
     static final ModelNumber ZERO = whole(0);
     static final ModelNumber ONE = whole(1);
     /** r is z and z to the 11 together. */
@@ -33,11 +34,16 @@ final class ModelNumber {
         return of(n, 0, 0, 0, 1);
     }
 
-    /** z to a power, found by multiplying z with itself. */
     static ModelNumber root(int power) {
-        ModelNumber found = of(1, 0, 0, 0, 1);
-        for (int i = 0; i < Math.floorMod(power, 12); i++) {
-            found = found.times(of(0, 1, 0, 0, 1));
+        return ROOTS[Math.floorMod(power, 12)];
+    }
+
+    /** Powers of z, found by multiplying z with itself. */
+    private static ModelNumber[] roots() {
+        ModelNumber[] found = new ModelNumber[12];
+        found[0] = of(1, 0, 0, 0, 1);
+        for (int i = 1; i < 12; i++) {
+            found[i] = found[i - 1].times(of(0, 1, 0, 0, 1));
         }
         return found;
     }
@@ -70,13 +76,7 @@ final class ModelNumber {
     }
 
     ModelNumber turned() {
-        ModelNumber sum = new ModelNumber(new BigInteger[] {parts[0], BigInteger.ZERO, BigInteger.ZERO,
-            BigInteger.ZERO}, lower);
-        for (int i = 1; i < 4; i++) {
-            sum = sum.plus(root(11 * i).times(new ModelNumber(new BigInteger[] {parts[i], BigInteger.ZERO,
-                BigInteger.ZERO, BigInteger.ZERO}, lower)));
-        }
-        return sum;
+        return swapped(11);
     }
 
     boolean isZero() {
@@ -99,13 +99,15 @@ final class ModelNumber {
             BigInteger.ZERO}, norm.parts[0]));
     }
 
+    /** With z to a power in place of z. */
     private ModelNumber swapped(int power) {
-        ModelNumber sum = ZERO;
+        BigInteger[] sums = {BigInteger.ZERO, BigInteger.ZERO, BigInteger.ZERO, BigInteger.ZERO};
         for (int i = 0; i < 4; i++) {
-            sum = sum.plus(root(power * i).times(new ModelNumber(new BigInteger[] {parts[i], BigInteger.ZERO,
-                BigInteger.ZERO, BigInteger.ZERO}, lower)));
+            for (int j = 0; j < 4; j++) {
+                sums[j] = sums[j].add(parts[i].multiply(root(power * i).parts[j]));
+            }
         }
-        return sum;
+        return new ModelNumber(sums, lower);
     }
 
     /** y of one that is x + y r, by the same lower number: r is 2 z - z z z. */

@@ -200,6 +200,14 @@ public final class PromisesTest {
         fault("array steps 3;steps 3;", 1, 14);
         fault("look 3;", 1, 0);
         fault("array steps 3;elements 3;", 1, 14);
+        fault("array steps 3;lookz 3;", 1, 14);
+        fault("array steps 3;look`3;", 1, 18);
+        fault("array steps 3;look{3;", 1, 18);
+        fault("array steps 3;alook 3;", 1, 14);
+        fault("array steps 3;loo 3;", 1, 14);
+        fault("array steps 3;look/3;", 1, 18);
+        fault("array steps 3;look:3;", 1, 18);
+        fault("array steps 3;look -3;", 1, 19);
         fault("array steps 3;element 12;", 2, 22);
         fault("array steps 3;broken 12;", 2, 21);
         fault("array steps 3;element 3;broken 3;", 2, 31);
@@ -447,6 +455,10 @@ public final class PromisesTest {
         due(26, "bounded(1, 0)", x.bounded(1, 0), -2);
         due(26, "bounded(-1, 1)", x.bounded(-1, 1), -2);
         due(26, "bounded(0, 1) without any", made("array steps 3;element 5;look 0;").bounded(0, 1), 1);
+        // 0 alone is louder
+        DeafArray zero = made("array steps 1;element 7;element 11;element 6;element 4;look 3;deaf 1;");
+        due(26, "bounded(50, 99) by 0", zero.bounded(50, 99), 0);
+        due(25, "side() is 0", zero.side(), 0);
         // exactly at the bound
         due(26, "bounded(1, 2)", made(TWINNED).bounded(1, 2), 1);
         due(26, "bounded(49, 99)", made(TWINNED).bounded(49, 99), 0);
@@ -504,6 +516,11 @@ public final class PromisesTest {
         due(32, "fewest(1), over", over.fewest(1), -1);
         due(30, "spares(), over", over.spares(), 0);
         DeafArray apart = made("array steps 4;element 8;element 6;element 2;element 0;look 7;deaf 10;");
+        DeafArray five = made("array steps 4;element 8;element 6;element 2;element 0;element 1;look 7;");
+        due(31, "frail(0) by all", five.frail(0), 5);
+        due(31, "frail(1) by all", five.frail(1), 31);
+        due(32, "fewest(0) by all", made(TIGHT).fewest(0), 5);
+        due(32, "fewest(1) by all", made(TIGHT).fewest(1), 31);
         due(31, "frail(0) by two", apart.frail(0), 2);
         due(31, "frail(1), not the first two", apart.frail(1), 6);
     }
@@ -600,6 +617,10 @@ public final class PromisesTest {
         DeafArray none = made("array steps 2;element 7;element 4;element 2;element 8;look 5;deaf 7;deaf 2;");
         due(41, "coarsest(0, 1), by none", none.coarsest(0, 1), -1);
         due(41, "coarsest(99, 1)", none.coarsest(99, 1), 1);
+        due(41, "coarsest(0, 1), by the last", made("array steps 6;element 5;element 4;element 3;element 7;element 8;"
+            + "look 4;deaf 11;deaf 6;deaf 7;").coarsest(0, 1), 99);
+        due(43, "exactly() by many", made("array steps 7;element 10;element 11;element 3;element 4;element 6;look 0;"
+            + "deaf 9;deaf 8;deaf 11;").exactly(), 96);
         due(41, "coarsest(1, 9)", made("array steps 7;element 4;element 2;element 1;look 10;deaf 8;deaf 5;")
             .coarsest(1, 9), 6);
         due(42, "step(0) without DEAF ones", made(TWINNED).step(0), -1);
@@ -693,6 +714,12 @@ public final class PromisesTest {
         due(48, "sealed(1, 3, 0) by two", two.sealed(1, 3, 0), 2);
         due(48, "sealed(1, 3, 1) by two", two.sealed(1, 3, 1), 1 << 7 | 1 << 2);
         due(48, "nothing stays", two.count(4), 1 << 9);
+        DeafArray four = made("array steps 4;element 11;element 9;element 6;element 5;element 2;look 9;deaf 8;");
+        due(48, "sealed(27, 99, 0) by three, four in all", four.sealed(27, 99, 0), 3);
+        due(48, "sealed(27, 99, 1) by three, four in all", four.sealed(27, 99, 1), 1 << 10 | 1 << 7 | 1 << 3);
+        DeafArray tight = made(TIGHT);
+        due(48, "sealed(99, 1, 0), four are", tight.sealed(99, 1, 0), 0);
+        due(48, "sealed(0, 1, 0), four are", tight.sealed(0, 1, 0), -1);
     }
 
     private static void promises49And50() {
