@@ -1160,15 +1160,13 @@ public final class DeafArray {
             c = third;
         }
 
-        /** By x + y r, where that leaves whole parts. */
-        void overReal(long x, long y) {
-            long norm = x * x - 3 * y * y;
-            if (norm != 0) {
-                timesReal(x, -y);
-                a /= norm;
-                b /= norm;
-                c /= norm;
-                d /= norm;
+        /** By a number that leaves whole parts. */
+        void divide(long by) {
+            if (by != 0) {
+                a /= by;
+                b /= by;
+                c /= by;
+                d /= by;
             }
         }
 
@@ -1689,6 +1687,7 @@ public final class DeafArray {
         /** The pivot's row is taken out of another; the pivot before it is divided out. */
         private void lowerRow(int pivotRow, int row) {
             Num pivot = form[pivotRow * WIDTH + pivotRow];
+            long norm = normOf(roomX, roomY);
             left.mirror(form[pivotRow * WIDTH + row]);
             for (int j = row; j < WIDTH; j++) {
                 if (j < wishes || j == ASKED) {
@@ -1697,13 +1696,19 @@ public final class DeafArray {
                     cell.timesReal(pivot.realX(), pivot.realY());
                     cell.takeAway(right);
                     if (rank > 0) {
-                        cell.overReal(roomX, roomY);
+                        cell.timesReal(roomX, -roomY);
+                        cell.divide(norm);
                     }
                 }
             }
         }
 
-        /** SHARES times ROOM are whole; ROOM times itself with -r for r is the lower number. */
+        /** x + y r times x - y r, a whole number: to divide by x + y r is to multiply by x - y r and divide by it. */
+        private static long normOf(long x, long y) {
+            return x * x - 3 * y * y;
+        }
+
+        /** SHARES times ROOM are whole, so ROOM's norm is a lower number for all. */
         private void substitute() {
             for (int i = wishes - 1; i >= 0; i--) {
                 Num share = shares[i];
@@ -1716,13 +1721,14 @@ public final class DeafArray {
                         share.takeAway(right);
                     }
                     Num pivot = form[i * WIDTH + i];
-                    share.overReal(pivot.realX(), pivot.realY());
+                    share.timesReal(pivot.realX(), -pivot.realY());
+                    share.divide(normOf(pivot.realX(), pivot.realY()));
                 }
             }
             for (int i = 0; i < wishes; i++) {
                 shares[i].timesReal(roomX, -roomY);
             }
-            lower = roomX * roomX - 3 * roomY * roomY;
+            lower = normOf(roomX, roomY);
         }
 
         private void weigh() {
