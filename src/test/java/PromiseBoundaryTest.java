@@ -834,6 +834,9 @@ public final class PromiseBoundaryTest {
         better.answers(Run.of("array steps 8;broken 0;element 1;element 2;broken 3;look 6;"), "better(1)", 1,
             "better(2)", 2);
         better.answers(Run.of("array steps 8;element 2;element 7;look 3;deaf 1;"), "better(0)", 4, "better(1)", 5);
+        // 0 would be best, but one stands there, BROKEN or not; there is no 12 in its place
+        better.answers(Run.of("array steps 3;broken 0;element 2;element 6;look 5;deaf 6;"), "better(1)", 1);
+        better.answers(Run.of("array steps 3;element 0;element 6;element 2;look 4;deaf 5;deaf 7;"), "better(2)", 1);
         // 2 would be, if y of TOTALS did not count
         better.answers(Run.of("array steps 7;element 9;element 8;element 1;look 4;deaf 9;"), "better(2)", 0);
         better.answers(OVER, "better(0)", -1).answers(LOOKLESS, "better(1)", -1);
