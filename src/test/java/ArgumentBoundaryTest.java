@@ -4,9 +4,8 @@ import java.util.Map;
 
 /**
  * Every argument of every call at its bounds, one below and one above them, at the least and the greatest int, and at
- * numbers that would be in bounds if only some of their bits counted; in states that are full, empty,
-     broken. What is in
- * bounds is answered as by the model; what is not is refused, and nothing is changed by it.
+ * numbers that would be in bounds if only some of their bits counted; in states that are full, empty, broken. What is
+ * in bounds is answered as by the model; what is not is refused, and nothing is changed by it.
  */
 public final class ArgumentBoundaryTest {
     private static final long NO_SUCH = Long.MIN_VALUE;
@@ -21,12 +20,11 @@ public final class ArgumentBoundaryTest {
         {"twins", -2L, "0..11"}, {"without", -2L, "element", "0..1"}, {"frail", -2L, "0..1"}, {"fewest", -2L, "0..1"},
         {"leak", NO_SUCH, "element", "0..11", "0..2"}, {"cut", NO_SUCH, "element", "0..3"},
         {"cutGain", NO_SUCH, "0..11", "0..3"}, {"cutPower", NO_SUCH, "0..11", "0..1"},
-            {"error", NO_SUCH, "0..11", "0..2"},
-        {"within", -2L, "0..11"}, {"coarsest", -2L, "0..99", "1..99"}, {"step", -2L, "0..2"},
-        {"polish", NO_SUCH, "1..20", "0..2"}, {"sealed", -2L, "0..99", "1..99", "0..1"},
-            {"placed", -2L, "1..5", "0..1"},
-        {"better", -2L, "element"}, {"both", NO_SUCH, "0..11", "-9..9", "-9..9", "0..11", "0..4"},
-        {"tell", -2L, "element"}, {"octet", -1L, "octet"}, {"breaks", -2L, "element"}, {"mends", -2L, "element"},
+        {"error", NO_SUCH, "0..11", "0..2"}, {"within", -2L, "0..11"}, {"coarsest", -2L, "0..99", "1..99"},
+        {"step", -2L, "0..2"}, {"polish", NO_SUCH, "1..20", "0..2"}, {"sealed", -2L, "0..99", "1..99", "0..1"},
+        {"placed", -2L, "1..5", "0..1"}, {"better", -2L, "element"},
+        {"both", NO_SUCH, "0..11", "-9..9", "-9..9", "0..11", "0..4"}, {"tell", -2L, "element"},
+        {"octet", -1L, "octet"}, {"breaks", -2L, "element"}, {"mends", -2L, "element"},
         {"moves", -2L, "element", "0..11"}, {"look", -2L, "0..11"}, {"deaf", -2L, "0..11"}, {"hear", -2L, "0..11"},
         {"steps", -2L, "1..99"}};
     private static final String CHANGING = " end tell breaks mends moves look deaf hear steps ";

@@ -9,21 +9,20 @@ import java.nio.file.Files;
 import java.nio.file.Path;
 import java.util.ArrayList;
 import java.util.Arrays;
-import java.util.HashSet;
+import java.util.HashMap;
 import java.util.List;
+import java.util.Map;
 import java.util.Random;
 import java.util.Set;
 import java.util.TreeSet;
 import java.util.regex.Matcher;
 import java.util.regex.Pattern;
+import java.util.stream.Collectors;
 
 /** What can be seen of LANGUAGE.md from outside: the face, forbidden words, sizes, and that no call makes objects. */
 public final class LanguageTest {
     private static final Path SOURCE = Path.of("src/main/java/DeafArray.java");
-    private static final String FACE = "feed array end fault count element hears wish rank solved weight gain power"
-        + " total louder loud hush beam share room likeness nearest quiet side bounded twins sets without spares frail"
-        + " fewest leak weakest cut cutGain cutPower error farthest within coarsest step exactly polish looks easiest"
-        + " deafer sealed placed better both tell octet breaks mends moves look deaf hear steps";
+    private static final Face FACE = new Face();
 
     private static int wrong;
 
@@ -47,30 +46,48 @@ public final class LanguageTest {
         }
     }
 
-    private static void checkFace() {
-        check(Modifier.isFinal(DeafArray.class.getModifiers()), "1: the class is not final");
-        Set<String> seen = new TreeSet<>();
+    private static void checkFace() throws IllegalAccessException {
+        int kind = DeafArray.class.getModifiers();
+        check(Modifier.isFinal(kind) && Modifier.isPublic(kind), "1: the class is not public and final");
+        Set<String> methods = new TreeSet<>();
         for (Method method : DeafArray.class.getDeclaredMethods()) {
             if (Modifier.isPublic(method.getModifiers())) {
-                seen.add(method.getName());
-                check(method.getReturnType() == int.class || method.getReturnType() == long.class, "1: " + method);
+                methods.add(method.getReturnType() + " " + method.getName() + "("
+                    + typesOf(method.getParameterTypes()) + ")");
+                check(!Modifier.isStatic(method.getModifiers()), "1: " + method);
             } else {
                 check(Modifier.isPrivate(method.getModifiers()), "1: " + method);
+                check(!FACE.names.contains(method.getName()), "1: " + method);
             }
         }
-        check(seen.equals(new TreeSet<>(List.of(FACE.split(" ")))), "1: the face is " + seen);
+        check(methods.equals(FACE.methods), "1: methods are " + methods + ", due are " + FACE.methods);
+        Set<String> constants = new TreeSet<>();
         for (Field field : DeafArray.class.getDeclaredFields()) {
-            boolean told = field.getName().equals("NONE") || field.getName().equals("NO_SUCH");
-            int modifiers = field.getModifiers();
-            check(told ? Modifier.isPublic(modifiers) : Modifier.isPrivate(modifiers), "1: " + field);
+            if (Modifier.isPublic(field.getModifiers())) {
+                constants.add(field.getType() + " " + field.getName() + " = " + valueOf(field));
+            } else {
+                check(Modifier.isPrivate(field.getModifiers()), "1: " + field);
+            }
         }
-        Constructor<?>[] constructors = DeafArray.class.getDeclaredConstructors();
-        check(constructors.length == 1 && constructors[0].getParameterCount() == 0, "1: constructors");
-        check(DeafArray.NONE == -1 && DeafArray.NO_SUCH == Long.MIN_VALUE, "1: constants");
+        check(constants.equals(FACE.constants), "1: constants are " + constants + ", due are " + FACE.constants);
+        Set<String> constructors = new TreeSet<>();
+        for (Constructor<?> constructor : DeafArray.class.getDeclaredConstructors()) {
+            check(Modifier.isPublic(constructor.getModifiers()), "1: " + constructor);
+            constructors.add(constructor.getName() + "(" + typesOf(constructor.getParameterTypes()) + ")");
+        }
+        check(constructors.equals(FACE.constructors), "1: constructors are " + constructors);
+    }
+
+    private static String typesOf(Class<?>[] types) {
+        return Arrays.stream(types).map(Class::getName).collect(Collectors.joining(", "));
+    }
+
+    private static String valueOf(Field constant) throws IllegalAccessException {
+        long value = constant.getLong(null);
+        return value == Long.MIN_VALUE ? "Long.MIN_VALUE" : Long.toString(value);
     }
 
     private static void checkInside() {
-        Set<String> face = new HashSet<>(List.of(FACE.split(" ")));
         Class<?>[] inside = DeafArray.class.getDeclaredClasses();
         check(inside.length < 12, "11: classes");
         List<Class<?>> all = new ArrayList<>(List.of(inside));
@@ -85,7 +102,7 @@ public final class LanguageTest {
             }
             check(fields <= 20, "11: fields of " + one);
             for (Method method : one.getDeclaredMethods()) {
-                check(one == DeafArray.class || !face.contains(method.getName()), "1: " + method);
+                check(one == DeafArray.class || !FACE.names.contains(method.getName()), "1: " + method);
                 check(method.getParameterCount() <= 7, "11: " + method);
             }
         }
@@ -114,6 +131,7 @@ public final class LanguageTest {
 
     private static void checkMethods(String source) {
         String[] lines = source.split("\n", -1);
+        Map<String, String> bodies = new HashMap<>();
         int start = -1;
         String end = "";
         for (int i = 0; i < lines.length; i++) {
@@ -123,9 +141,36 @@ public final class LanguageTest {
                 end = lines[i].replaceAll("\\S.*", "") + "}";
             } else if (start >= 0 && lines[i].equals(end)) {
                 check(i - start < 60, "11: a method of " + (i - start + 1) + " lines at " + (start + 1));
+                String name = lines[start].replaceFirst("\\(.*", "").replaceFirst(".*\\s", "");
+                // methods of several classes that bear one name count as one: so it may only seem deeper than it is
+                bodies.merge(name, String.join("\n", List.of(lines).subList(start + 1, i)), String::concat);
                 start = -1;
             }
             check(lines[i].length() <= 120, "a long line, " + (i + 1));
+        }
+        check(bodies.keySet().containsAll(FACE.names), "methods are overlooked");
+        Set<String> deep = new TreeSet<>();
+        for (String name : FACE.names) {
+            findDeep(bodies, List.of(name), deep);
+        }
+        check(deep.isEmpty(), "8, 11: calls go deeper than eight, or are a recursion, at " + deep);
+    }
+
+    /** Of calls that stand open at once the last is followed further; where that goes too deep is noted. */
+    private static void findDeep(Map<String, String> bodies, List<String> open, Set<String> deep) {
+        String last = open.get(open.size() - 1);
+        if (open.size() > 8 || open.indexOf(last) < open.size() - 1) {
+            deep.add(last);
+            return;
+        }
+        Set<String> followed = new TreeSet<>();
+        Matcher called = Pattern.compile("\\b(\\w+)\\(").matcher(bodies.get(last));
+        while (called.find()) {
+            if (bodies.containsKey(called.group(1)) && followed.add(called.group(1))) {
+                List<String> further = new ArrayList<>(open);
+                further.add(called.group(1));
+                findDeep(bodies, further, deep);
+            }
         }
     }
 

@@ -6,8 +6,7 @@ import java.util.Map;
 
 /** Calls that lead to a state. They can be made again on a new object, as often as the state is needed. */
 final class Run {
-    /** Calls that show an object's whole state but for the TAPE's bytes; they change nothing,
-        and leave room for a run. */
+    /** Calls that show the whole state but for the TAPE's bytes; they change nothing, and leave room for a run. */
     private static final List<String> SHOWING = showing();
     /** Calls that show the TAPE's bytes by what they tell; these change the object. */
     private static final List<String> SHOWING_TAPE = showingTape();
